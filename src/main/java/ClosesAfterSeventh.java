@@ -875,18 +875,22 @@ public final class ClosesAfterSeventh {
             peopleKept = people.size;
             hour = doors.hour;
             System.arraycopy(doors.left, 0, left, 0, doorsKept);
-            System.arraycopy(people.where, 0, where, 0, peopleKept);
-            System.arraycopy(people.reached, 0, reached, 0, peopleKept);
-            System.arraycopy(people.done, 0, done, 0, peopleKept);
+            for (int p = 0; p < peopleKept; p++) {
+                where[p] = people.where[p];
+                reached[p] = people.reached[p];
+                done[p] = people.done[p];
+            }
             filled = true;
         }
 
         void giveBack(Doors doors, People people) {
             doors.hour = hour;
             System.arraycopy(left, 0, doors.left, 0, doorsKept);
-            System.arraycopy(where, 0, people.where, 0, peopleKept);
-            System.arraycopy(reached, 0, people.reached, 0, peopleKept);
-            System.arraycopy(done, 0, people.done, 0, peopleKept);
+            for (int p = 0; p < peopleKept; p++) {
+                people.where[p] = where[p];
+                people.reached[p] = reached[p];
+                people.done[p] = done[p];
+            }
         }
     }
 
@@ -1588,6 +1592,10 @@ public final class ClosesAfterSeventh {
             if (goal == NONE) {
                 return NONE;
             }
+            // Ahead of the costs, for it sets costs of its own.
+            if (plan == PRICED && price.asksCrowd) {
+                countWays(person);
+            }
             setCosts(person, plan);
             int size = routes.find(people.where[person], goal);
             for (int i = 0; i < size; i++) {
@@ -1596,13 +1604,26 @@ public final class ClosesAfterSeventh {
             return size;
         }
 
+        /** The fewest DOORS with which one who is busy can end its ERRAND at all, as they get no more (0: it can't). */
+        int fewestDoors(int person) {
+            int goal = people.goal(person);
+            if (goal == NONE) {
+                return 0;
+            }
+            routes.useAbove(0);
+            routes.measure(goal);
+            int sum = routes.dist[people.where[person]];
+            if (people.back[person] && !people.reached[person]) {
+                routes.measure(people.first[person]);
+                sum += routes.dist[goal];
+            }
+            return sum < Routes.FAR ? sum : 0;
+        }
+
         private void setCosts(int person, int plan) {
             if (plan == STRAIGHT || plan == KEEPING) {
                 routes.useAbove(plan == KEEPING ? keepBack : 0);
                 return;
-            }
-            if (plan == PRICED && price.asksCrowd) {
-                countWays(person);
             }
             for (int d = 0; d < doors.size; d++) {
                 routes.cost[d] = 0;
@@ -1721,6 +1742,9 @@ public final class ClosesAfterSeventh {
         // The WORTH that is DONE, with that of all who have still to go.
         private int hope;
         private int passed;
+        // How many DOORS each must pass for its WORTH, and all who have still to go.
+        private final int[] must = new int[MOST];
+        private int mustAll;
 
         Orders(Doors doors, People people, Walks walks) {
             this.doors = doors;
@@ -1736,13 +1760,17 @@ public final class ClosesAfterSeventh {
             size = 0;
             hope = people.worthDone();
             passed = 0;
+            mustAll = 0;
             bestWorth = NONE;
             bestPassed = 0;
             for (int p = 0; p < people.size && size < MOST; p++) {
                 if (people.isBusy(p)) {
                     goers[size] = p;
-                    size++;
+                    // Who has no WORTH may as well fail, with no DOORS at all.
+                    must[size] = people.worth[p] > 0 ? walks.fewestDoors(p) : 0;
+                    mustAll += must[size];
                     hope += people.worth[p];
+                    size++;
                 }
             }
         }
@@ -1755,6 +1783,7 @@ public final class ClosesAfterSeventh {
             }
             int hopeBefore = hope;
             int passedBefore = passed;
+            int mustBefore = mustAll;
             levels[depth].take(doors, people);
             for (int i = 0; i < size; i++) {
                 if (hasBit(gone, i)) {
@@ -1763,19 +1792,21 @@ public final class ClosesAfterSeventh {
                 int person = goers[i];
                 tried[depth] = person;
                 passed += walks.trip(person, plan);
+                mustAll -= must[i];
                 hope -= people.done[person] ? 0 : people.worth[person];
                 if (canBeBetter()) {
                     goOn(depth + 1, gone | 1 << i);
                 }
                 hope = hopeBefore;
                 passed = passedBefore;
+                mustAll = mustBefore;
                 levels[depth].giveBack(doors, people);
             }
         }
 
         // An equal one comes later in order, and so is the greater row.
         private boolean canBeBetter() {
-            return hope > bestWorth || hope == bestWorth && passed < bestPassed;
+            return hope > bestWorth || hope == bestWorth && passed + mustAll < bestPassed;
         }
 
         private void adopt() {

@@ -4,6 +4,9 @@ import java.util.Random;
 /** Runs of calls, drawn from fixed seeds, on the class and on the slow model: every answer and all that shows. */
 public final class ModelTest {
     private static final int RUNS = 1500;
+    // Such as make one go another way than the WAY.
+    private static final String[] USUAL = {"k*9+1", "9*k+l", "(k>1)*50+2", "l", "61-l", "m-l+1", "o*20+1", "20-o*19",
+        "1+(l=1)*30", "w*k+1", "(h>11)*m+1", "5-k"};
     private static int wrong = 0;
 
     private final Random random;
@@ -194,7 +197,7 @@ public final class ModelTest {
                 break;
             case 1:
             case 2:
-                String s = priceText(0);
+                String s = random.nextInt(3) == 0 ? USUAL[random.nextInt(USUAL.length)] : priceText(0);
                 write(random.nextInt(4) == 0 ? spoilt(s, "lmohwk()<>=+-*0123456789x") : s, 40);
                 same("price()", x.price(), m.price());
                 break;

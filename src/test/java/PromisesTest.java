@@ -530,6 +530,12 @@ public final class PromisesTest {
         ClosesAfterSeventh y = with("d0-1,30;d1-2,31;d0-2,1;d0-2,1;p0,7>2");
         due("goes(0, 1), 61 against 60", y.goes(0, 1), 1);
         dueRow("goes(0, 1)", y, 2);
+        ClosesAfterSeventh z = with("d0-2,9;d0-1,9;d1-2,9;p0,7>2;p0,7>2;s2,7>0;p0,7");
+        tellPrice(z, "k+1");
+        due("goes(0, 3), where the others do not go", z.goes(0, 3), 2);
+        dueRow("goes(0, 3)", z, 1, 2);
+        due("goes(1, 3), where one other goes", z.goes(1, 3), 1);
+        dueRow("goes(1, 3)", z, 0);
     }
 
     private static void priced() {
@@ -749,6 +755,9 @@ public final class PromisesTest {
         dueRow("fire(4)", x, 13);
         due("fire(4095)", x.fire(4095), 5);
         dueRow("fire(4095)", x, 31);
+        due("fire(1)", x.fire(1), 3);
+        dueRow("fire(1)", x, 7);
+        due("fire(2048)", x.fire(2048), 0);
         due("fire(0)", x.fire(0), -1);
         due("fire(4096)", x.fire(4096), -1);
         due("fire(-1)", x.fire(-1), -1);
@@ -994,6 +1003,10 @@ public final class PromisesTest {
         }
         due("one more", x.says(0, 0, 1), -1);
         due("count(5)", x.count(5), 20);
+        due("trust(0) with twenty", x.trust(0), 0);
+        dueRow("trust(0) with twenty", x, 5, 175);
+        tellHouse(x, "p0,1");
+        due("safe(0, 1, 15, 0) with twenty", x.safe(0, 1, 15, 0), 1);
     }
 
     private static void trust() {

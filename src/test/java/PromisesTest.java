@@ -424,6 +424,15 @@ public final class PromisesTest {
         due("hours(1)", x.hours(1), -1);
         due("hours(0)", x.hours(0), 23);
         due("count(2)", x.count(2), 23);
+        ClosesAfterSeventh y = with("d0-1,5@9;p0,1");
+        due("hours(12)", y.hours(12), 12);
+        y.pass(0, 0);
+        y.hours(0);
+        due("noon has begun already", y.count(4), 8);
+        y.hours(1);
+        due("noon is over", y.count(4), 8);
+        tellHouse(y, "d0-1,5@9");
+        due("a DOOR told behind noon", y.door(1, 4), 5);
     }
 
     private static void pass() {
@@ -937,11 +946,16 @@ public final class PromisesTest {
         due("two(0, 5, 1, 1), five", y.two(0, 5, 1, 1), 5);
         dueRow("two(0, 5, 1, 1)", y, 5, 0, 1, 2, 3, 4);
         due("two(0, 6, 1, 1), six", y.two(0, 6, 1, 1), -2);
+        due("two(1, 1, 0, 5), five", y.two(1, 1, 0, 5), 5);
+        dueRow("two(1, 1, 0, 5)", y, 0, 0, 1, 2, 3, 4);
         due("two(1, 1, 0, 6), six", y.two(1, 1, 0, 6), -2);
         due("two(0, 2, 1, 2), one DOOR", y.two(0, 2, 1, 2), -2);
         y.sheet(2, 2, 1, 1);
         due("two(0, 2, 1, 2), it lets two", y.two(0, 2, 1, 2), 3);
         dueRow("two(0, 2, 1, 2)", y, 2, 0, 1, 1);
+        ClosesAfterSeventh z = with("d1-2,1;d2-0,1;d1>0,1;p2,1;p2,1");
+        due("the least row of the first, though longer", z.two(0, 0, 1, 0), 3);
+        dueRow("the least row of the first", z, 2, 0, 2, 1);
     }
 
     private static void keep() {

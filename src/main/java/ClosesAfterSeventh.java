@@ -211,7 +211,8 @@ public final class ClosesAfterSeventh {
             return NONE;
         }
         walks.countWays(person);
-        return walks.priceFor(person, door);
+        walks.setPrice(person, door);
+        return price.workOut();
     }
 
     public int fro(int person, int room) {
@@ -407,8 +408,7 @@ public final class ClosesAfterSeventh {
         if (Integer.bitCount(people.busyBits()) > Orders.MOST) {
             return TOO_MANY;
         }
-        orders.begin(plan);
-        orders.goOn(0, 0);
+        orders.search(plan);
         rowSize = 0;
         tell(orders.bestPassed);
         for (int i = 0; i < orders.size; i++) {
@@ -1628,17 +1628,17 @@ public final class ClosesAfterSeventh {
             for (int d = 0; d < doors.size; d++) {
                 routes.cost[d] = 0;
                 if (doors.left[d] > 0) {
-                    int sum = plan == SPARE ? MOST_LEFT + 1 - doors.left[d] : priceFor(person, d);
+                    setPrice(person, d);
+                    int sum = plan == SPARE ? MOST_LEFT + 1 - doors.left[d] : price.workOut();
                     routes.cost[d] = sum * ABOVE_DOORS + 1;
                 }
             }
         }
 
-        /** What a DOOR costs one, with the others on their WAY as they were counted last. */
-        int priceFor(int person, int door) {
+        /** Sets for whom and of which DOOR to work out THE PRICE, with the others on their WAY as counted last. */
+        void setPrice(int person, int door) {
             price.setGoer(doors.hour, people.worth[person]);
             price.setDoor(doors.left[door], doors.lets[door], doors.oneWay[door], onWay[door]);
-            return price.workOut();
         }
 
         /** Counts who of all but one has each DOOR on the WAY to where it has to come next. */
@@ -1755,7 +1755,12 @@ public final class ClosesAfterSeventh {
             }
         }
 
-        void begin(int byPlan) {
+        void search(int byPlan) {
+            begin(byPlan);
+            goOn(0, 0);
+        }
+
+        private void begin(int byPlan) {
             plan = byPlan;
             size = 0;
             hope = people.worthDone();
@@ -1776,7 +1781,7 @@ public final class ClosesAfterSeventh {
         }
 
         /** Tries all who are not gone yet (bits) in each order behind those tried before. */
-        void goOn(int depth, int gone) {
+        private void goOn(int depth, int gone) {
             if (depth >= size) {
                 adopt();
                 return;

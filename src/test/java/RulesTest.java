@@ -2,6 +2,7 @@ import java.io.IOException;
 import java.nio.file.Files;
 import java.nio.file.Path;
 import java.util.ArrayList;
+import java.util.Arrays;
 import java.util.List;
 import java.util.regex.Matcher;
 import java.util.regex.Pattern;
@@ -99,6 +100,11 @@ public final class RulesTest {
                 }
                 if (m.group(3).split(",").length > 7) {
                     fault(m.group(2) + " has too many parameters");
+                }
+                String body = String.join("\n", Arrays.asList(lines).subList(i + 1, Math.min(i + length, lines.length)));
+                boolean recursive = Pattern.compile("(?<![.\\w])" + m.group(2) + "\\(").matcher(body).find();
+                if (recursive && !lines[i].trim().startsWith("private ")) {
+                    fault(m.group(2) + " calls itself and is not private");
                 }
             }
         }
